@@ -1,0 +1,61 @@
+/** Counts the answers that are as due, and prints every other one. */
+final class Check {
+    static final int INVALID = -1000001;
+    static final int NOT_POSSIBLE = -1000002;
+    static final int LIMIT = -1000003;
+    static final int NOT_FOUND = -1000004;
+
+    private int right;
+    private int wrong;
+
+    void due(String what, long want, long got) {
+        if (want == got) {
+            right++;
+        } else {
+            wrong++;
+            System.out.println(what + " answered " + got + ", due is " + want);
+        }
+    }
+
+    /** Prints the sum and ends the program, with exit code 1 if an answer was not as due. */
+    void close(String name) {
+        System.out.println(name + ": " + right + " answers as due, " + wrong + " not");
+        System.exit(wrong == 0 && right > 0 ? 0 : 1);
+    }
+
+    static ToolShed shedOf(int members) {
+        ToolShed shed = new ToolShed();
+        for (int i = 0; i < members; i++) {
+            shed.member();
+        }
+        return shed;
+    }
+
+    static void type(ToolShed shed, String text) {
+        for (int i = 0; i < text.length(); i++) {
+            shed.type(text.charAt(i));
+        }
+    }
+
+    static void pass(ToolShed shed, int days) {
+        for (int left = days; left > 0; left -= 60) {
+            shed.pass(Math.min(left, 60));
+        }
+    }
+
+    /** Asks a member for the numbers from..to, told in one line. */
+    static String numbers(ToolShed shed, int member, int from, int to) {
+        StringBuilder line = new StringBuilder();
+        for (int what = from; what <= to; what++) {
+            line.append(what == from ? "" : " ").append(shed.memberOf(member, what));
+        }
+        return line.toString();
+    }
+
+    void dueText(String what, String want, String got) {
+        if (!want.equals(got)) {
+            System.out.println(what + " answered " + got + ", due is " + want);
+        }
+        due(what + " as a whole", 1, want.equals(got) ? 1 : 0);
+    }
+}
