@@ -1472,21 +1472,15 @@ public final class ToolShed {
         return (int) (sharpness * 1000f);
     }
 
-    /** Scaling by 2 is exact, so it brings out the exponent; what stays below 1 is a number without a leading bit. */
-    private static int floatBits(float number) {
-        if (!(number > 0f)) {
-            return 0;
-        }
-        float scaled = number;
+    /**
+     * The bits of a sharpness, which lies between 0 and 1. Doubling is exact, so it brings out the exponent; a number
+     * so small that it stays below 1 takes its leading bit back by the difference, which is below 0 then.
+     */
+    private static int floatBits(float sharpness) {
+        float scaled = sharpness;
         int exponent = 127;
         for (; scaled < 1f && exponent > 1; exponent--) {
             scaled = scaled * 2f;
-        }
-        for (; scaled >= 2f && exponent < 254; exponent++) {
-            scaled = scaled / 2f;
-        }
-        if (scaled < 1f) {
-            return (int) (scaled * 8388608f);
         }
         return (exponent << 23) + (int) ((scaled - 1f) * 8388608f);
     }

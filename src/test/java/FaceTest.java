@@ -12,20 +12,19 @@ import java.util.regex.Pattern;
 public final class FaceTest {
     private static final Check CHECK = new Check();
 
-    private static final String[] CALLS = {"set 2", "member 0", "away 2", "leave 1", "give 2", "memberOf 2", "account 1",
-        "debtorAt 1", "tool 3", "hang 3", "borrow 2", "giveBack 1", "toolOf 2", "bits 1", "dullBehind 2", "mean 1",
-        "hookAt 2", "sharpen 0", "swap 2", "turnAt 1", "dullAt 1", "lose 1", "say 3", "find 1", "panelAt 3", "propose 3",
-        "vote 3", "proposalOf 2", "lendOut 4", "comeBack 1", "pass 1", "count 1", "undo 0", "type 1", "clearText 0",
-        "fault 1", "play 0"};
+    private static final String[] CALLS = {"set 2", "member 0", "away 2", "leave 1", "give 2", "memberOf 2",
+        "account 1", "debtorAt 1", "tool 3", "hang 3", "borrow 2", "giveBack 1", "toolOf 2", "bits 1",
+        "dullBehind 2", "mean 1", "hookAt 2", "sharpen 0", "swap 2", "turnAt 1", "dullAt 1", "lose 1", "say 3",
+        "find 1", "panelAt 3", "propose 3", "vote 3", "proposalOf 2", "lendOut 4", "comeBack 1", "pass 1", "count 1",
+        "undo 0", "type 1", "clearText 0", "fault 1", "play 0"};
     private static final String[] CONSTANTS = {"INVALID_ARGUMENT -1000001", "NOT_POSSIBLE -1000002",
         "LIMIT_REACHED -1000003", "NOT_FOUND -1000004"};
 
-    /** What the rules leave out; comments and texts are taken away before these are looked for. */
+    /** What the rules leave out, and exceptions, which the document asks for nowhere; comments are not looked at. */
     private static final String[] NOT_IN_SOURCE = {"\\bimport\\b", "\\bpackage\\b", "->", "::", "\\bthrows?\\b",
         "\\btry\\b", "\\bcatch\\b", "\\bfinally\\b", "\\bassert\\b", "\\bsynchronized\\b", "\\bnative\\b", "\\bvar\\b",
-        "\\bstatic\\s*\\{", "\\bFloat\\.", "\\bDouble\\.", "\\bObject\\b", "\\bThread\\b", "Exact\\b", "\\bString\\b",
-        "\\bprotected\\b", "\\b(equals|hashCode|toString)\\b", "\\bwhile\\b", "\\bSystem\\.(?!arraycopy\\b)",
-        "\\bMath\\.(?!max\\b|min\\b)"};
+        "\\bstatic\\s*\\{", "\\bFloat\\.", "\\bDouble\\.", "\\bObject\\b", "\\bThread\\b", "Exact\\b",
+        "\\bprotected\\b", "\\b(equals|hashCode|toString)\\b", "\\bSystem\\.(?!arraycopy\\b)"};
 
     public static void main(String[] args) throws Exception {
         promise1Constructor();

@@ -136,7 +136,9 @@ public final class MembersTest {
         CHECK.due("the tool is found", 0, shed.leave(0));
         shed.pass(30);
         CHECK.due("has something open", Check.NOT_POSSIBLE, shed.leave(1));
-        shed.give(1, 20);
+        shed.give(1, 19);
+        CHECK.due("has one quarter open", Check.NOT_POSSIBLE, shed.leave(1));
+        shed.give(1, 1);
         CHECK.due("has nothing open", 0, shed.leave(1));
 
         ToolShed decided = Check.shedOf(5);

@@ -257,7 +257,7 @@ public final class RandomRunsTest {
     private String order() {
         String order;
         switch (random.nextInt(4)) {
-            case 0: order = "g" + number(member()) + "," + number(random.nextInt(30) == 0 ? in(0, 401) : in(1, 40)); break;
+            case 0: order = "g" + number(member()) + "," + number(in(1, random.nextInt(30) == 0 ? 400 : 40)); break;
             case 1: order = "l" + number(toolAt(0)) + "," + number(member()); break;
             case 2: order = "b" + number(toolAt(1)); break;
             default: order = random.nextInt(3) == 0 ? "s" : "g" + number(member()) + "," + number(in(1, 9));

@@ -101,6 +101,8 @@ public final class SharpeningTest {
         ToolShed shed = Check.shedOf(4);
         CHECK.due("the place of the first one then", 3, shed.swap(0, 3));
         CHECK.due("the other one", 0, shed.memberOf(3, 13));
+        CHECK.due("with the first of the turns", 0, shed.swap(0, 3));
+        CHECK.due("and back", 0, shed.swap(3, 0));
         CHECK.due("first of the turns", 3, shed.turnAt(0));
         CHECK.due("last of the turns", 0, shed.turnAt(3));
         shed.away(2, 1);

@@ -10,6 +10,7 @@ public final class ShedsAndTimeTest {
         promise32Dues();
         promise33Count();
         promise34Undo();
+        promise34BringsBackWhatWasOverwritten();
         promise34KeepsTheText();
         promise34EveryChange();
         CHECK.close("ShedsAndTimeTest");
@@ -192,6 +193,46 @@ public final class ShedsAndTimeTest {
         CHECK.due("the next one joins as number 2", 2, shed.member());
         CHECK.due("a change is recorded again", 1, shed.count(10));
         CHECK.due("and undone", 0, shed.undo());
+    }
+
+    /** A tool's days, fee, hook and panel come back, also when it had others since. */
+    private static void promise34BringsBackWhatWasOverwritten() {
+        ToolShed lent = Check.shedOf(1);
+        lent.tool(0, 5, 10);
+        lent.lendOut(0, 1, 4, 7);
+        lent.pass(6);
+        lent.comeBack(0);
+        lent.lendOut(0, 2, 9, 3);
+        lent.undo();
+        lent.undo();
+        CHECK.due("the day it was due", 4, lent.toolOf(0, 5));
+        CHECK.due("the shed it was at", 1, lent.toolOf(0, 4));
+        CHECK.due("days and fee of it", 56, lent.comeBack(0));
+
+        ToolShed hung = Check.shedOf(1);
+        hung.tool(0, 5, 10);
+        hung.hang(0, 2, 3);
+        hung.borrow(0, 0);
+        hung.giveBack(0);
+        hung.hang(0, 0, 1);
+        hung.undo();
+        hung.undo();
+        hung.undo();
+        CHECK.due("the hook it hung on", 23, hung.toolOf(0, 8));
+
+        ToolShed lost = Check.shedOf(7);
+        lost.tool(0, 5, 10);
+        lost.borrow(0, 0);
+        lost.lose(0);
+        lost.find(0);
+        lost.borrow(0, 0);
+        lost.lose(0);
+        CHECK.due("another panel", 4, lost.panelAt(0, 0, 0));
+        lost.undo();
+        lost.undo();
+        lost.undo();
+        CHECK.due("the first one again", 1, lost.panelAt(0, 0, 0));
+        CHECK.due("and its last one", 3, lost.panelAt(0, 2, 0));
     }
 
     private static void promise34KeepsTheText() {

@@ -53,6 +53,8 @@ public final class VotesTest {
         shed.set(6, 3);
         CHECK.due("last day", 7, shed.propose(0, 5, 5));
         shed.set(6, 60);
+        shed.vote(0, 0, 0);
+        shed.undo();
         shed.vote(0, 0, 1);
         shed.pass(3);
         CHECK.due("on the last day", 1, shed.count(8));
@@ -61,13 +63,28 @@ public final class VotesTest {
         CHECK.due("it is dropped", 0, shed.count(8));
         CHECK.due("there is none", Check.NOT_FOUND, shed.proposalOf(0, 3));
         CHECK.due("nobody can vote", Check.NOT_POSSIBLE, shed.vote(0, 1, 1));
-        CHECK.due("a new one", 68, shed.propose(0, 5, 5));
+        CHECK.due("a new one", 68, shed.propose(0, 9, 8));
         CHECK.due("old votes are none of it", 0, shed.proposalOf(0, 3));
         CHECK.due("who voted can vote again", 2, shed.vote(0, 0, 1));
         shed.undo();
         shed.undo();
         shed.undo();
-        CHECK.due("undone, it is there again", 1, shed.proposalOf(0, 3));
+        int[] old = {5, 5, 7, 1, 0};
+        for (int what = 0; what < old.length; what++) {
+            CHECK.due("undone, it is there again: " + what, old[what], shed.proposalOf(0, what));
+        }
+        votesWithNoAreNoneOfANewOne();
+    }
+
+    private static void votesWithNoAreNoneOfANewOne() {
+        ToolShed shed = Check.shedOf(3);
+        shed.tool(0, 5, 30);
+        shed.propose(0, 5, 5);
+        shed.vote(0, 0, 0);
+        shed.pass(11);
+        shed.propose(0, 5, 5);
+        CHECK.due("old votes with no are none of it", 0, shed.proposalOf(0, 4));
+        CHECK.due("one of three rejects nothing", 2, shed.vote(0, 1, 0));
     }
 
     private static void promise28Vote() {
