@@ -275,7 +275,7 @@ public final class ToolShed {
         if (what != 0 && what != 1) {
             return INVALID_ARGUMENT;
         }
-        tryOrders();
+        orders.tryOn(trial, present);
         if (orders.reason == NO_FAULT) {
             return NOT_FOUND;
         }
@@ -283,18 +283,13 @@ public final class ToolShed {
     }
 
     public int play() {
-        tryOrders();
+        orders.tryOn(trial, present);
         if (orders.reason != NO_FAULT) {
             return NOT_POSSIBLE;
         }
         history.copyPresent(present);
         present.copyFrom(trial);
         return changed(orders.done);
-    }
-
-    private void tryOrders() {
-        trial.copyFrom(present);
-        orders.runOn(trial);
     }
 
     /** Answers are at least 0 and errors below, so the sign tells whether there was a change. */
@@ -1387,13 +1382,14 @@ public final class ToolShed {
             return before;
         }
 
-        void runOn(Shed shed) {
+        void tryOn(Shed trial, Shed present) {
+            trial.copyFrom(present);
             next = 0;
             done = 0;
             reason = NO_FAULT;
             for (int i = 0; i < TEXT_LIMIT && next < length && reason == NO_FAULT; i++) {
                 position = next;
-                reason = runOrder(shed);
+                reason = runOrder(trial);
                 if (reason == NO_FAULT) {
                     done++;
                 }
