@@ -43,6 +43,17 @@ final class Check {
         }
     }
 
+    /** Lends a tool to another shed and takes it back on the same day, so that it is as dull as behind one day. */
+    static void wearOnce(ToolShed shed, int tool) {
+        shareFee(shed, tool, 0);
+    }
+
+    /** Shares up to 40 quarters as a gain among all members, by a tool that is lent to another shed for a day. */
+    static void shareFee(ToolShed shed, int tool, int quarters) {
+        shed.lendOut(tool, 0, 1, quarters);
+        shed.comeBack(tool);
+    }
+
     /** Asks a member for the numbers from..to, told in one line. */
     static String numbers(ToolShed shed, int member, int from, int to) {
         StringBuilder line = new StringBuilder();

@@ -1,46 +1,47 @@
-import java.lang.reflect.Method;
-import java.lang.reflect.Modifier;
 import java.util.ArrayList;
-import java.util.Comparator;
 import java.util.List;
 import java.util.Map;
 import java.util.Random;
 import java.util.TreeMap;
 
 /**
- * Runs of 512 calls, each answered by ToolShed and by Model, which must agree; behind each call the sums of the members
- * must hold. The seeds are fixed, so that every run is the same each time.
+ * Runs of at most 512 calls, each answered by ToolShed and by Model, which must agree; at the end of every other run the
+ * sums of the members must hold. The seeds are fixed, so that every run is the same each time.
  */
 public final class RandomRunsTest {
-    private static final int RUNS = 1500;
+    private static final int RUNS = 2000;
     private static final int CALLS = 512;
+    private static final int CALLS_FOR_A_TEXT = 70;
+    private static final int CALLS_FOR_SUMS = 110;
     private static final int MOST_PRINTED = 20;
+
+    private static final Calls OF_SHED = new Calls(ToolShed.class);
+    private static final Calls OF_MODEL = new Calls(Model.class);
+    private static final Map<String, int[]> MET = new TreeMap<>();
 
     private final Random random;
     private final ToolShed shed = new ToolShed();
     private final Model model = new Model();
     private final List<String> calls = new ArrayList<>();
     private final int style;
-
-    private static final Map<String, Method> OF_SHED = methods(ToolShed.class);
-    private static final Map<String, Method> OF_MODEL = methods(Model.class);
-    private static final Map<String, int[]> MET = new TreeMap<>();
+    private final boolean asksSums;
 
     private RandomRunsTest(int seed) {
         random = new Random(seed);
         style = seed % 4;
+        asksSums = seed / 4 % 2 == 0;
     }
 
-    public static void main(String[] args) throws Exception {
+    public static void main(String[] args) {
         Check check = new Check();
-        check.due("calls of the model", OF_SHED.size(), OF_MODEL.size());
+        check.due("calls of the model", OF_SHED.number(), OF_MODEL.number());
         int printed = 0;
         for (int run = 0; run < RUNS && printed < MOST_PRINTED; run++) {
             String wrong = new RandomRunsTest(run).run();
             check.due("run " + run + " " + wrong, 1, wrong.isEmpty() ? 1 : 0);
             printed += wrong.isEmpty() ? 0 : 1;
         }
-        for (String name : OF_SHED.keySet()) {
+        for (String name : OF_SHED.names()) {
             int[] met = MET.getOrDefault(name, new int[5]);
             check.due(name + " was answered without an error", 1, met[0] > 0 ? 1 : 0);
         }
@@ -51,18 +52,9 @@ public final class RandomRunsTest {
         check.close("RandomRunsTest");
     }
 
-    private static Map<String, Method> methods(Class<?> type) {
-        Map<String, Method> all = new TreeMap<>();
-        for (Method method : type.getDeclaredMethods()) {
-            if (Modifier.isPublic(method.getModifiers())) {
-                all.put(method.getName(), method);
-            }
-        }
-        return all;
-    }
-
-    private String run() throws Exception {
+    private String run() {
         int start = style == 3 ? 0 : 4 + random.nextInt(6);
+        int most = CALLS - CALLS_FOR_A_TEXT - (asksSums ? CALLS_FOR_SUMS : 0);
         String wrong = "";
         for (int i = 0; i < start && wrong.isEmpty(); i++) {
             wrong = call("member");
@@ -70,44 +62,34 @@ public final class RandomRunsTest {
         for (int i = 0; i < 2 * start && wrong.isEmpty(); i++) {
             wrong = call("tool", random.nextInt(2), 1 + random.nextInt(60), random.nextInt(51));
         }
-        while (calls.size() < CALLS - 70 && wrong.isEmpty()) {
+        while (calls.size() < most && wrong.isEmpty()) {
             wrong = step();
-            if (wrong.isEmpty()) {
-                wrong = brokenSum();
-            }
         }
-        return wrong;
+        return wrong.isEmpty() && asksSums ? brokenSum() : wrong;
     }
 
-    private String call(String name, int... args) throws Exception {
-        Object[] boxed = new Object[args.length];
-        StringBuilder told = new StringBuilder(name).append('(');
-        for (int i = 0; i < args.length; i++) {
-            boxed[i] = args[i];
-            told.append(i == 0 ? "" : ", ").append(args[i]);
-        }
-        calls.add(told.append(')').toString());
-        int got = (Integer) OF_SHED.get(name).invoke(shed, boxed);
-        int want = (Integer) OF_MODEL.get(name).invoke(model, boxed);
+    private String call(String name, int... arguments) {
+        String told = Calls.told(name, arguments);
+        calls.add(told);
+        int got = OF_SHED.answer(shed, name, arguments);
+        int want = OF_MODEL.answer(model, name, arguments);
         int[] met = MET.computeIfAbsent(name, n -> new int[5]);
         met[got >= 0 ? 0 : -1000000 - got]++;
-        if (got == want) {
-            return "";
-        }
-        return told + " answered " + got + ", due is " + want + " behind " + calls;
+        return got == want ? "" : told + " answered " + got + ", due is " + want + " behind " + calls;
     }
 
     /** For each member given + shared = paid + credit + handed on, and nothing is open beside credit. */
     private String brokenSum() {
-        for (int i = 0; shed.memberOf(i, 0) >= 0; i++) {
+        for (int i = 0; i < 10 && model.memberOf(i, 0) >= 0; i++) {
             int in = shed.memberOf(i, 1) + shed.memberOf(i, 2);
-            int used = shed.memberOf(i, 3) + shed.memberOf(i, 4);
+            int credit = shed.memberOf(i, 3);
+            int used = credit + shed.memberOf(i, 4);
             int open = 0;
             for (int kind = 0; kind < 3; kind++) {
                 used += shed.memberOf(i, 5 + kind);
                 open += shed.memberOf(i, 8 + kind);
             }
-            if (in != used || open > 0 && shed.memberOf(i, 3) > 0) {
+            if (in != used || open > 0 && credit > 0) {
                 return "sum of member " + i + " is broken behind " + calls;
             }
         }
@@ -115,21 +97,21 @@ public final class RandomRunsTest {
     }
 
     private int member() {
-        int members = shed.count(0) + shed.count(1) + shed.count(2);
+        int members = model.count(0) + model.count(1) + model.count(2);
         return random.nextInt(40) == 0 ? random.nextInt(13) - 1 : random.nextInt(Math.max(1, members));
     }
 
     private int tool() {
         int tools = 0;
         for (int what = 3; what <= 7; what++) {
-            tools += shed.count(what);
+            tools += model.count(what);
         }
         return random.nextInt(40) == 0 ? random.nextInt(24) - 2 : random.nextInt(Math.max(1, tools));
     }
 
     private int toolAt(int place) {
         int tool = tool();
-        for (int i = 0; i < 40 && shed.toolOf(tool, 3) != place; i++) {
+        for (int i = 0; i < 40 && model.toolOf(tool, 3) != place; i++) {
             tool = random.nextInt(20);
         }
         return tool;
@@ -146,7 +128,7 @@ public final class RandomRunsTest {
         }
     }
 
-    private String step() throws Exception {
+    private String step() {
         int kind = random.nextInt(100);
         if (kind < 40) {
             return question();
@@ -163,7 +145,7 @@ public final class RandomRunsTest {
         return style == 1 || random.nextInt(3) == 0 ? text() : time();
     }
 
-    private String members() throws Exception {
+    private String members() {
         switch (random.nextInt(16)) {
             case 0: return random.nextInt(4) == 0 ? call("member") : call("undo");
             case 1: return call("away", member(), in(0, 1));
@@ -177,12 +159,12 @@ public final class RandomRunsTest {
         }
     }
 
-    private String payDebts() throws Exception {
-        int debtor = shed.debtorAt(0);
+    private String payDebts() {
+        int debtor = model.debtorAt(0);
         return debtor < 0 ? call("give", member(), in(1, 9)) : call("give", debtor, in(15, 60));
     }
 
-    private String setting() throws Exception {
+    private String setting() {
         int[][] ranges = {{0, 400}, {1, 60}, {0, 20}, {0, 40}, {0, 1000}, {0, 100}, {1, 60}};
         int what = in(0, 6);
         if (what < 0 || what > 6) {
@@ -191,7 +173,7 @@ public final class RandomRunsTest {
         return call("set", what, what == 0 && random.nextInt(3) > 0 ? in(0, 20) : in(ranges[what][0], ranges[what][1]));
     }
 
-    private String lending() throws Exception {
+    private String lending() {
         switch (random.nextInt(9)) {
             case 0: return call("tool", in(0, 1), in(1, 400), in(0, 50));
             case 1: return call("hang", toolAt(0), in(0, 2), in(0, 3));
@@ -202,7 +184,7 @@ public final class RandomRunsTest {
         }
     }
 
-    private String deciding() throws Exception {
+    private String deciding() {
         switch (random.nextInt(12)) {
             case 0: case 1: return call("lose", toolAt(1));
             case 2: return random.nextInt(3) == 0 ? call("find", toolAt(2)) : call("lose", toolAt(1));
@@ -213,26 +195,26 @@ public final class RandomRunsTest {
         }
     }
 
-    private String sayOfPanel() throws Exception {
+    private String sayOfPanel() {
         int tool = toolAt(2);
-        int member = shed.panelAt(tool, random.nextInt(3), 0);
+        int member = model.panelAt(tool, random.nextInt(3), 0);
         return call("say", tool, member < 0 ? member() : member, random.nextInt(3));
     }
 
-    private String proposing() throws Exception {
+    private String proposing() {
         int tool = tool();
-        return call("propose", tool, in(1, 400), in(1, Math.max(1, shed.toolOf(tool, 2))));
+        return call("propose", tool, in(1, 400), in(1, Math.max(1, model.toolOf(tool, 2))));
     }
 
     private int proposed() {
         int tool = tool();
-        for (int i = 0; i < 40 && shed.proposalOf(tool, 0) < 0; i++) {
+        for (int i = 0; i < 40 && model.proposalOf(tool, 0) < 0; i++) {
             tool = random.nextInt(20);
         }
         return tool;
     }
 
-    private String time() throws Exception {
+    private String time() {
         switch (random.nextInt(6)) {
             case 0: return call("pass", in(1, 60));
             case 1: return call("undo");
@@ -240,7 +222,7 @@ public final class RandomRunsTest {
         }
     }
 
-    private String text() throws Exception {
+    private String text() {
         String wrong = call("clearText");
         StringBuilder orders = new StringBuilder();
         for (int i = random.nextInt(7); i > 0; i--) {
@@ -274,7 +256,7 @@ public final class RandomRunsTest {
         return random.nextInt(8) == 0 ? "0" + digits : digits;
     }
 
-    private String question() throws Exception {
+    private String question() {
         switch (random.nextInt(16)) {
             case 0: return call("account", in(1, 11));
             case 1: return call("debtorAt", in(0, 9));

@@ -12,12 +12,6 @@ public final class SharpeningTest {
         CHECK.close("SharpeningTest");
     }
 
-    /** Lends a tool out and takes it back on the same day, so that it is as dull as behind one day. */
-    private static void wearOnce(ToolShed shed, int tool) {
-        shed.lendOut(tool, 0, 1, 0);
-        shed.comeBack(tool);
-    }
-
     private static void promise19Sharpen() {
         ToolShed shed = Check.shedOf(3);
         CHECK.due("no cutter", Check.NOT_FOUND, shed.sharpen());
@@ -26,7 +20,7 @@ public final class SharpeningTest {
         shed.tool(0, 5, 50);
         shed.tool(0, 5, 50);
         for (int tool = 0; tool < 4; tool++) {
-            wearOnce(shed, tool);
+            Check.wearOnce(shed, tool);
         }
         shed.away(0, 1);
         CHECK.due("the dullest cutter, lowest number", 2, shed.sharpen());
@@ -52,7 +46,7 @@ public final class SharpeningTest {
     private static void paysWhatIsOpen() {
         ToolShed shed = Check.shedOf(1);
         shed.tool(0, 5, 50);
-        wearOnce(shed, 0);
+        Check.wearOnce(shed, 0);
         shed.set(3, 40);
         shed.pass(30);
         CHECK.due("sharpen", 0, shed.sharpen());
@@ -62,7 +56,7 @@ public final class SharpeningTest {
     private static void promise19Limit() {
         ToolShed shed = Check.shedOf(1);
         shed.tool(0, 5, 40);
-        wearOnce(shed, 0);
+        Check.wearOnce(shed, 0);
         CHECK.due("thousandths", 600, shed.toolOf(0, 6));
         CHECK.due("not below the limit", Check.NOT_FOUND, shed.sharpen());
         shed.set(4, 601);
@@ -75,7 +69,7 @@ public final class SharpeningTest {
         CHECK.due("restores all", 0, shed.sharpen());
         CHECK.due("as sharp as new", 0x3f800000, shed.bits(0));
         CHECK.due("not below 1000", Check.NOT_FOUND, shed.sharpen());
-        wearOnce(shed, 0);
+        Check.wearOnce(shed, 0);
         shed.set(4, 0);
         CHECK.due("nothing is below 0", Check.NOT_FOUND, shed.sharpen());
     }
@@ -86,7 +80,7 @@ public final class SharpeningTest {
         shed.set(4, 1000);
         float sharp = 1f;
         for (int percent = 1; percent <= 100; percent += 3) {
-            wearOnce(shed, 0);
+            Check.wearOnce(shed, 0);
             sharp = sharp * 63f;
             sharp = sharp / 100f;
             shed.set(5, percent);
@@ -141,10 +135,10 @@ public final class SharpeningTest {
         int[] wears = {10, 30, 20, 30, 0, 50};
         for (int tool = 0; tool < wears.length; tool++) {
             shed.tool(0, 5, wears[tool]);
-            wearOnce(shed, tool);
+            Check.wearOnce(shed, tool);
         }
         shed.tool(1, 5, 50);
-        wearOnce(shed, 6);
+        Check.wearOnce(shed, 6);
         int[] order = {5, 1, 3, 2, 0, 4};
         for (int i = 0; i < order.length; i++) {
             CHECK.due("dullAt(" + i + ")", order[i], shed.dullAt(i));

@@ -80,8 +80,8 @@ public final class TextsTest {
             "l0.1;", "b;", "b1", "b1,", "b0001;", "b1,1;", "bx;", "s1;", "s ;", "ss;", "-1;", "g-1,1;", "g+1,1;",
             "g0,-1;", "b:;", "b/;", "g0,1:", "gg0,1;"};
         for (String text : wrong) {
-            dueFault(shed, text, 0, 1);
-            dueFault(shed, "g0,1;" + text, 5, 1);
+            dueFault(shedForTexts(), text, 0, 1);
+            dueFault(shedForTexts(), "g0,1;" + text, 5, 1);
         }
         dueFault(shed, "g0,1;;g0,1;", 5, 1);
         dueFault(shed, "g0,1; g0,1;", 5, 1);
@@ -143,18 +143,19 @@ public final class TextsTest {
     }
 
     private static void promise37ChangesNothing() {
+        Twins good = new Twins(CHECK, () -> typed("g0,50;b1;l1,0;"));
+        good.dueNotFound("fault(0) of good orders", shed -> shed.fault(0));
+        good.dueNotFound("fault(1) of good orders", shed -> shed.fault(1));
+        Twins bad = new Twins(CHECK, () -> typed("g0,50;b1;l1,0;b2;"));
+        bad.dueUnchanged("a fault behind good orders", 14, shed -> shed.fault(0));
+        bad.dueUnchanged("its reason", 3, shed -> shed.fault(1));
+        bad.dueNotPossible("play()", ToolShed::play);
+    }
+
+    private static ToolShed typed(String text) {
         ToolShed shed = shedForTexts();
-        String before = Snapshot.of(shed);
-        Check.type(shed, "g0,50;b1;l1,0;");
-        shed.fault(0);
-        shed.fault(1);
-        CHECK.dueText("fault() changes nothing", before, Snapshot.of(shed));
-        CHECK.due("nor the text", 14, shed.count(11));
-        Check.type(shed, "b2;");
-        CHECK.due("a fault behind good orders", 14, shed.fault(0));
-        CHECK.due("play()", Check.NOT_POSSIBLE, shed.play());
-        CHECK.dueText("play() with a fault changes nothing", before, Snapshot.of(shed));
-        CHECK.due("nothing is recorded", 4, shed.count(10));
+        Check.type(shed, text);
+        return shed;
     }
 
     private static void promise38Play() {

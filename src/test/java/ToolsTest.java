@@ -216,28 +216,27 @@ public final class ToolsTest {
         }
     }
 
-    /** The sharpness goes down to the floats without a leading bit and on to 0. */
     private static void promise15Bits() {
+        dueBitsDayByDay(50);
+        dueBitsDayByDay(7);
         ToolShed shed = Check.shedOf(1);
         shed.tool(0, 5, 50);
-        shed.tool(0, 5, 7);
         CHECK.due("bits of 1", 0x3f800000, shed.bits(0));
-        shed.set(1, 60);
-        float half = 1f;
-        float seven = 1f;
-        for (int day = 1; day <= 160; day++) {
-            shed.borrow(0, 0);
-            shed.giveBack(0);
-            shed.borrow(1, 0);
-            shed.giveBack(1);
-            half = half * 50f / 100f;
-            seven = seven * 93f / 100f;
-            CHECK.due("bits of halves, day " + day, Float.floatToIntBits(half), shed.bits(0));
-            CHECK.due("bits of 0.93, day " + day, Float.floatToIntBits(seven), shed.bits(1));
-        }
-        CHECK.due("nothing is left", 0, shed.bits(0));
-        CHECK.due("bits(2)", Check.INVALID, shed.bits(2));
+        CHECK.due("bits(1)", Check.INVALID, shed.bits(1));
         CHECK.due("bits(-1)", Check.INVALID, shed.bits(-1));
+    }
+
+    /** By halves, the sharpness goes down to the floats without a leading bit and on to 0. */
+    private static void dueBitsDayByDay(int wear) {
+        ToolShed shed = Check.shedOf(1);
+        shed.tool(0, 5, wear);
+        float sharp = 1f;
+        for (int day = 1; day <= 160; day++) {
+            Check.wearOnce(shed, 0);
+            sharp = sharp * (100 - wear) / 100f;
+            CHECK.due("bits by wear " + wear + ", day " + day, Float.floatToIntBits(sharp), shed.bits(0));
+        }
+        CHECK.due("nothing is left of halves", wear == 50 ? 1 : 0, shed.bits(0) == 0 ? 1 : 0);
     }
 
     private static void promise16DullBehind() {
