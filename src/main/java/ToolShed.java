@@ -1469,8 +1469,9 @@ public final class ToolShed {
     }
 
     /**
-     * The bits of a sharpness, which lies between 0 and 1. Doubling is exact, so it brings out the exponent; a number
-     * so small that it stays below 1 takes its leading bit back by the difference, which is below 0 then.
+     * The bits of a sharpness, which lies between 0 and 2: sharpening can round it a little above 1. Doubling is exact,
+     * so it brings out the exponent; a number so small that it stays below 1 takes its leading bit back by the
+     * difference, which is below 0 then.
      */
     private static int floatBits(float sharpness) {
         float scaled = sharpness;

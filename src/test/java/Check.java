@@ -31,6 +31,26 @@ final class Check {
         return shed;
     }
 
+    /**
+     * Six members and a plain tool in each place: 0 in the shed, 1 with member 5, 2 lost by 5 with a panel of 0, 3 and
+     * 4, 3 at shed 3, and 4 gone, of which 0 and 1 said that member 4 pays, who has 3 quarters open.
+     */
+    static ToolShed eachPlace() {
+        ToolShed shed = shedOf(6);
+        for (int tool = 0; tool < 5; tool++) {
+            shed.tool(1, 3, 10);
+        }
+        shed.borrow(4, 4);
+        shed.lose(4);
+        shed.say(4, 0, 0);
+        shed.say(4, 1, 0);
+        shed.borrow(1, 5);
+        shed.borrow(2, 5);
+        shed.lose(2);
+        shed.lendOut(3, 3, 1, 7);
+        return shed;
+    }
+
     static void type(ToolShed shed, String text) {
         for (int i = 0; i < text.length(); i++) {
             shed.type(text.charAt(i));

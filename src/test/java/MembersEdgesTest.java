@@ -139,7 +139,7 @@ public final class MembersEdgesTest {
         shed.pass(30);
         shed.leave(0);
         CHECK.due("3: joins behind three", 3, shed.member());
-        CHECK.dueText("3: all is 0, the place is the last", "0 0 0 0 0 0 0 0 0 0 0 0 0 2", Check.numbers(shed, 3, 0, 13));
+        CHECK.dueText("3: all is 0, the place the last", "0 0 0 0 0 0 0 0 0 0 0 0 0 2", Check.numbers(shed, 3, 0, 13));
     }
 
     private static void promise4EachWayToAndFro() {
@@ -337,7 +337,7 @@ public final class MembersEdgesTest {
         for (int what = 1; what <= 11; what++) {
             all.append(shed.account(what)).append(' ');
         }
-        CHECK.dueText("8: given, shared, credit, handed on, dues of both", "100 80 60 80 40 0 0 0 0 0 0 ", all.toString());
+        CHECK.dueText("8: given, shared, credit, handed on, dues", "100 80 60 80 40 0 0 0 0 0 0 ", all.toString());
     }
 
     private static void promise9NoDebtorAndTen() {

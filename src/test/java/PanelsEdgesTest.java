@@ -34,23 +34,6 @@ public final class PanelsEdgesTest {
         return shed;
     }
 
-    /** Six members; tool 0 is in the shed, 1 with member 5, 2 lost by 5, 3 at shed 1, 4 gone. */
-    private static ToolShed eachPlace() {
-        ToolShed shed = Check.shedOf(6);
-        for (int tool = 0; tool < 5; tool++) {
-            shed.tool(PLAIN, 3, 10);
-        }
-        shed.borrow(4, 4);
-        shed.lose(4);
-        shed.say(4, 0, 0);
-        shed.say(4, 1, 0);
-        shed.borrow(1, 5);
-        shed.borrow(2, 5);
-        shed.lose(2);
-        shed.lendOut(3, 1, 1, 0);
-        return shed;
-    }
-
     private static String panel(ToolShed shed, int tool) {
         return shed.panelAt(tool, 0, 0) + " " + shed.panelAt(tool, 1, 0) + " " + shed.panelAt(tool, 2, 0);
     }
@@ -111,7 +94,7 @@ public final class PanelsEdgesTest {
     }
 
     private static void promise23InEachPlace() {
-        Twins places = new Twins(CHECK, PanelsEdgesTest::eachPlace);
+        Twins places = new Twins(CHECK, Check::eachPlace);
         places.dueNotPossible("23: in the shed", shed -> shed.lose(0));
         places.dueUndone("23: with a member", 1, shed -> shed.lose(1));
         places.dueNotPossible("23: lost already", shed -> shed.lose(2));
@@ -207,7 +190,7 @@ public final class PanelsEdgesTest {
     }
 
     private static void promise24InEachPlace() {
-        Twins places = new Twins(CHECK, PanelsEdgesTest::eachPlace);
+        Twins places = new Twins(CHECK, Check::eachPlace);
         places.dueNotPossible("24: in the shed", shed -> shed.say(0, 2, 0));
         places.dueNotPossible("24: with a member", shed -> shed.say(1, 2, 0));
         places.dueUndone("24: lost", 3, shed -> shed.say(2, shed.panelAt(2, 0, 0), 0));
@@ -243,7 +226,7 @@ public final class PanelsEdgesTest {
     }
 
     private static void promise25InEachPlace() {
-        Twins places = new Twins(CHECK, PanelsEdgesTest::eachPlace);
+        Twins places = new Twins(CHECK, Check::eachPlace);
         places.dueNotPossible("25: in the shed", shed -> shed.find(0));
         places.dueNotPossible("25: with a member", shed -> shed.find(1));
         places.dueUndone("25: lost", 0, shed -> shed.find(2));
@@ -283,7 +266,7 @@ public final class PanelsEdgesTest {
     }
 
     private static void promise26InEachPlace() {
-        Twins places = new Twins(CHECK, PanelsEdgesTest::eachPlace);
+        Twins places = new Twins(CHECK, Check::eachPlace);
         int[] tools = {0, 1, 3, 4};
         for (int tool : tools) {
             for (int index = 0; index < 3; index++) {

@@ -5,8 +5,8 @@ import java.util.Random;
 import java.util.TreeMap;
 
 /**
- * Runs of at most 512 calls, each answered by ToolShed and by Model, which must agree; at the end of every other run the
- * sums of the members must hold. The seeds are fixed, so that every run is the same each time.
+ * Runs of at most 512 calls, each answered by ToolShed and by Model, which must agree; at the end of about half of the
+ * runs the sums of the members must hold. The seeds are fixed, so that every run is the same each time.
  */
 public final class RandomRunsTest {
     private static final int RUNS = 2000;

@@ -1,6 +1,6 @@
 /**
- * What is shared, at its edges, by each promise that shares: credits (5), losses of all and of the others (24), costs of
- * upgrades (28) and fees (31), with the pointer (8) at its first and last place, and remainders from 0 to the most.
+ * What is shared, at its edges, by each promise that shares: credits (5), losses of all and of the others (24), costs
+ * of upgrades (28) and fees (31), with the pointer (8) at its first and last place, and remainders from 0 to the most.
  */
 public final class SharingEdgesTest {
     private static final Check CHECK = new Check();

@@ -1,4 +1,4 @@
-/** Promises 19 to 22 at their edges: nobody there and ten in turns, at the limit and beside it, no cutter and twenty. */
+/** Promises 19 to 22 at their edges: nobody there, ten in turns, at the limit and beside it, no cutter and twenty. */
 public final class SharpeningEdgesTest {
     private static final Check CHECK = new Check();
     private static final int CUTTER = 0;
@@ -13,6 +13,7 @@ public final class SharpeningEdgesTest {
         promise19TenInTurns();
         promise19OnlyOneInTurns();
         promise19LeastAndMostRestored();
+        promise19ALittleAbove1();
         promise20FirstAndLastOfTen();
         promise20Refused();
         promise21FirstAndLastOfTen();
@@ -159,6 +160,24 @@ public final class SharpeningEdgesTest {
             CHECK.due("19: sharpen by " + percents[i], 0, shed.sharpen());
             CHECK.due("19: restored by " + percents[i], due[i], shed.toolOf(0, 6));
         }
+    }
+
+    /** Floats are rounded, so a tool that all is restored of may be a little sharper than a new one. */
+    private static void promise19ALittleAbove1() {
+        ToolShed shed = Check.shedOf(1);
+        shed.tool(CUTTER, 1, 6);
+        shed.tool(CUTTER, 1, 0);
+        shed.lendOut(0, 0, 1, 0);
+        shed.pass(28);
+        shed.comeBack(0);
+        shed.set(4, 1000);
+        shed.set(5, 100);
+        CHECK.due("19: restores all", 0, shed.sharpen());
+        CHECK.due("15: the float next to 1", 0x3f800001, shed.bits(0));
+        CHECK.due("14: thousandths of it", 1000, shed.toolOf(0, 6));
+        CHECK.due("17: the mean of it and 1", 1000, shed.mean(CUTTER));
+        CHECK.dueText("22: it is behind 1", "1 0", shed.dullAt(0) + " " + shed.dullAt(1));
+        CHECK.due("19: not below 1000", Check.NOT_FOUND, shed.sharpen());
     }
 
     private static void promise20FirstAndLastOfTen() {

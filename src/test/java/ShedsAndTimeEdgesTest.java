@@ -21,28 +21,12 @@ public final class ShedsAndTimeEdgesTest {
         promise34QuestionsAreNoStates();
         promise34NothingChangesButIsAState();
         promise34UndoIsNoState();
+        promise34TheLastOf512Calls();
         CHECK.close("ShedsAndTimeEdgesTest");
     }
 
-    /** Five members; tool 0 is in the shed, 1 with member 0, 2 lost by 0, 3 at shed 3, 4 gone, of which 0 owes 3. */
-    private static ToolShed eachPlace() {
-        ToolShed shed = Check.shedOf(5);
-        for (int tool = 0; tool < 5; tool++) {
-            shed.tool(PLAIN, 3, 10);
-        }
-        shed.borrow(1, 0);
-        shed.borrow(2, 0);
-        shed.borrow(4, 0);
-        shed.lose(4);
-        shed.say(4, 1, 0);
-        shed.say(4, 2, 0);
-        shed.lose(2);
-        shed.lendOut(3, 3, 1, 7);
-        return shed;
-    }
-
     private static void promise30InEachPlace() {
-        Twins places = new Twins(CHECK, ShedsAndTimeEdgesTest::eachPlace);
+        Twins places = new Twins(CHECK, Check::eachPlace);
         places.dueUndone("30: in the shed", 60, shed -> shed.lendOut(0, 3, 60, 40));
         places.dueNotPossible("30: with a member", shed -> shed.lendOut(1, 0, 1, 0));
         places.dueNotPossible("30: lost", shed -> shed.lendOut(2, 0, 1, 0));
@@ -128,7 +112,7 @@ public final class ShedsAndTimeEdgesTest {
     }
 
     private static void promise31InEachPlace() {
-        Twins places = new Twins(CHECK, ShedsAndTimeEdgesTest::eachPlace);
+        Twins places = new Twins(CHECK, Check::eachPlace);
         places.dueNotPossible("31: in the shed", shed -> shed.comeBack(0));
         places.dueNotPossible("31: with a member", shed -> shed.comeBack(1));
         places.dueNotPossible("31: lost", shed -> shed.comeBack(2));
@@ -222,7 +206,7 @@ public final class ShedsAndTimeEdgesTest {
             shed.leave(member);
             CHECK.dueText("33: away, gone", 9 - member + " " + (member + 1), shed.count(1) + " " + shed.count(2));
         }
-        ToolShed places = eachPlace();
+        ToolShed places = Check.eachPlace();
         for (int what = 3; what <= 7; what++) {
             CHECK.due("33: one in each place, " + what, 1, places.count(what));
         }
@@ -291,10 +275,10 @@ public final class ShedsAndTimeEdgesTest {
     }
 
     private static void promise34QuestionsAreNoStates() {
-        Twins places = new Twins(CHECK, ShedsAndTimeEdgesTest::eachPlace);
-        places.dueUnchanged("34: memberOf", 3, shed -> shed.memberOf(0, 9));
+        Twins places = new Twins(CHECK, Check::eachPlace);
+        places.dueUnchanged("34: memberOf", 3, shed -> shed.memberOf(4, 9));
         places.dueUnchanged("34: account", 3, shed -> shed.account(9));
-        places.dueUnchanged("34: debtorAt", 0, shed -> shed.debtorAt(0));
+        places.dueUnchanged("34: debtorAt", 4, shed -> shed.debtorAt(0));
         places.dueUnchanged("34: toolOf", 2, shed -> shed.toolOf(2, 3));
         places.dueUnchanged("34: bits", 0x3f800000, shed -> shed.bits(0));
         places.dueUnchanged("34: dullBehind", 900, shed -> shed.dullBehind(0, 1));
@@ -302,7 +286,7 @@ public final class ShedsAndTimeEdgesTest {
         places.dueNotFound("34: hookAt", shed -> shed.hookAt(0, 0));
         places.dueUnchanged("34: turnAt", 4, shed -> shed.turnAt(4));
         places.dueNotFound("34: dullAt", shed -> shed.dullAt(0));
-        places.dueUnchanged("34: panelAt", 1, shed -> shed.panelAt(2, 0, 0));
+        places.dueUnchanged("34: panelAt", 0, shed -> shed.panelAt(2, 0, 0));
         places.dueNotFound("34: proposalOf", shed -> shed.proposalOf(0, 0));
         places.dueUnchanged("34: count", 4, shed -> shed.count(10));
         places.dueNotFound("34: fault", shed -> shed.fault(0));
@@ -316,7 +300,7 @@ public final class ShedsAndTimeEdgesTest {
     }
 
     private static void promise34NothingChangesButIsAState() {
-        Twins places = new Twins(CHECK, ShedsAndTimeEdgesTest::eachPlace);
+        Twins places = new Twins(CHECK, Check::eachPlace);
         places.dueUndone("34: the setting as it is", 20, shed -> shed.set(0, 20));
         places.dueUndone("34: there again who is there", 0, shed -> shed.away(4, 0));
         places.dueUndone("34: no orders", 0, ToolShed::play);
@@ -341,5 +325,13 @@ public final class ShedsAndTimeEdgesTest {
         shed.clearText();
         shed.undo();
         CHECK.dueText("34: the text stays empty", "0 101", shed.count(11) + " " + shed.count(20));
+    }
+
+    private static void promise34TheLastOf512Calls() {
+        ToolShed shed = Check.shedOf(1);
+        for (int call = 2; call < 512; call++) {
+            CHECK.due("6: credit behind call " + call, 400 * (call - 1), shed.give(0, 400));
+        }
+        CHECK.due("34: call 512", 3, shed.undo());
     }
 }

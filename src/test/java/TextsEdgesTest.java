@@ -8,6 +8,7 @@ public final class TextsEdgesTest {
         promise35EachCharacter();
         promise35EmptyAndFull();
         promise36EmptyAndFull();
+        promise36NothingOfTheOldTextIsLeft();
         promise37NumberOfDigits();
         promise37BesideTheDigits();
         promise37CutOffAnywhere();
@@ -96,6 +97,19 @@ public final class TextsEdgesTest {
             CHECK.due("36: again", 0, shed.clearText());
         }
         new Twins(CHECK, TextsEdgesTest::fullShed).dueUnchanged("36: of an empty text", 0, ToolShed::clearText);
+    }
+
+    /** What stood behind the end of the new text does not end its last order. */
+    private static void promise36NothingOfTheOldTextIsLeft() {
+        String[] orders = {"g0,123;", "g0,1;", "l17,0;", "b18;", "s;"};
+        for (String order : orders) {
+            for (int length = 1; length < order.length(); length++) {
+                ToolShed shed = typed(order);
+                shed.clearText();
+                Check.type(shed, order.substring(0, length));
+                CHECK.dueText("36: the first " + length + " of " + order, "0 1", shed.fault(0) + " " + shed.fault(1));
+            }
+        }
     }
 
     /** Each number of each order, with no digit, with one to three, and with four. */

@@ -1,4 +1,4 @@
-/** Promises 10 to 18 at their edges: no tools and twenty, free and full walls, the last that is taken, the first refused. */
+/** Promises 10 to 18 at their edges: no tools and twenty, free and full walls, the last taken, the first refused. */
 public final class ToolsEdgesTest {
     private static final Check CHECK = new Check();
     private static final int CUTTER = 0;
@@ -19,6 +19,7 @@ public final class ToolsEdgesTest {
         promise12LeavesItsHook();
         promise13LateDays();
         promise13DaysItWasAway();
+        promise13WithoutWearInFloats();
         promise13OnlyWhatAMemberHas();
         promise14NotFound();
         promise14ThousandthsAreCut();
@@ -26,6 +27,7 @@ public final class ToolsEdgesTest {
         promise16FirstAndLastDay();
         promise16GoneToolIsRefused();
         promise17NoneAndTwenty();
+        promise17InDoubles();
         promise18EachHook();
         CHECK.close("ToolsEdgesTest");
     }
@@ -35,21 +37,6 @@ public final class ToolsEdgesTest {
         for (int tool = 0; tool < tools; tool++) {
             shed.tool(PLAIN, 4, 10);
         }
-        return shed;
-    }
-
-    /** Five members, and a tool in each place: 0 in the shed, 1 with member 0, 2 lost by 0, 3 at shed 0, 4 gone. */
-    private static ToolShed eachPlace() {
-        ToolShed shed = withTools(5, 5);
-        shed.borrow(1, 0);
-        shed.borrow(2, 0);
-        shed.lose(2);
-        shed.lendOut(3, 0, 1, 0);
-        shed.borrow(4, 1);
-        shed.lose(4);
-        shed.say(4, shed.panelAt(4, 0, 0), 0);
-        shed.say(4, shed.panelAt(4, 1, 0), 0);
-        shed.give(1, 4);
         return shed;
     }
 
@@ -140,7 +127,7 @@ public final class ToolsEdgesTest {
     }
 
     private static void promise11OnlyWhatIsInTheShed() {
-        Twins places = new Twins(CHECK, ToolsEdgesTest::eachPlace);
+        Twins places = new Twins(CHECK, Check::eachPlace);
         places.dueUndone("11: in the shed", 1, shed -> shed.hang(0, 1, 0));
         places.dueNotPossible("11: with a member", shed -> shed.hang(1, 1, 0));
         places.dueNotPossible("11: lost", shed -> shed.hang(2, 1, 0));
@@ -232,13 +219,13 @@ public final class ToolsEdgesTest {
     }
 
     private static void promise12OnlyWhatIsInTheShed() {
-        Twins places = new Twins(CHECK, ToolsEdgesTest::eachPlace);
-        places.dueUndone("12: in the shed", 7, shed -> shed.borrow(0, 4));
-        places.dueNotPossible("12: with a member", shed -> shed.borrow(1, 4));
-        places.dueNotPossible("12: with this member", shed -> shed.borrow(1, 0));
-        places.dueNotPossible("12: lost", shed -> shed.borrow(2, 4));
-        places.dueNotPossible("12: at another shed", shed -> shed.borrow(3, 4));
-        places.dueNotPossible("12: gone", shed -> shed.borrow(4, 4));
+        Twins places = new Twins(CHECK, Check::eachPlace);
+        places.dueUndone("12: in the shed", 7, shed -> shed.borrow(0, 0));
+        places.dueNotPossible("12: with a member", shed -> shed.borrow(1, 0));
+        places.dueNotPossible("12: with this member", shed -> shed.borrow(1, 5));
+        places.dueNotPossible("12: lost", shed -> shed.borrow(2, 0));
+        places.dueNotPossible("12: at another shed", shed -> shed.borrow(3, 0));
+        places.dueNotPossible("12: gone", shed -> shed.borrow(4, 0));
     }
 
     private static void promise12LeavesItsHook() {
@@ -285,8 +272,26 @@ public final class ToolsEdgesTest {
         }
     }
 
+    /** A float times 100 and divided by 100 may be another one, and is asked for without wear too. */
+    private static void promise13WithoutWearInFloats() {
+        ToolShed shed = Check.shedOf(1);
+        shed.tool(CUTTER, 1, 1);
+        shed.lendOut(0, 0, 1, 0);
+        shed.pass(2);
+        shed.comeBack(0);
+        shed.set(4, 1000);
+        shed.set(5, 20);
+        CHECK.due("19: sharpen", 0, shed.sharpen());
+        shed.propose(0, 1, 1);
+        shed.vote(0, 0, 1);
+        CHECK.dueText("13: no wear is left", "0 1065086123", shed.toolOf(0, 2) + " " + shed.bits(0));
+        shed.borrow(0, 0);
+        CHECK.due("13: giveBack", 0, shed.giveBack(0));
+        CHECK.due("13: the float next to it", 1065086124, shed.bits(0));
+    }
+
     private static void promise13OnlyWhatAMemberHas() {
-        Twins places = new Twins(CHECK, ToolsEdgesTest::eachPlace);
+        Twins places = new Twins(CHECK, Check::eachPlace);
         places.dueNotPossible("13: in the shed", shed -> shed.giveBack(0));
         places.dueUndone("13: with a member", 0, shed -> shed.giveBack(1));
         places.dueNotPossible("13: lost", shed -> shed.giveBack(2));
@@ -295,8 +300,8 @@ public final class ToolsEdgesTest {
     }
 
     private static void promise14NotFound() {
-        Twins places = new Twins(CHECK, ToolsEdgesTest::eachPlace);
-        int[] holders = {Check.NOT_FOUND, 0, 0, 0, Check.NOT_FOUND};
+        Twins places = new Twins(CHECK, Check::eachPlace);
+        int[] holders = {Check.NOT_FOUND, 5, 5, 3, Check.NOT_FOUND};
         int[] days = {Check.NOT_FOUND, 7, 7, 1, Check.NOT_FOUND};
         for (int tool = 0; tool < 5; tool++) {
             int one = tool;
@@ -319,7 +324,7 @@ public final class ToolsEdgesTest {
     }
 
     private static void promise15BitsWhereverItIs() {
-        Twins places = new Twins(CHECK, ToolsEdgesTest::eachPlace);
+        Twins places = new Twins(CHECK, Check::eachPlace);
         for (int tool = 0; tool < 5; tool++) {
             int one = tool;
             places.dueUnchanged("15: bits of " + tool, 0x3f800000, shed -> shed.bits(one));
@@ -344,7 +349,7 @@ public final class ToolsEdgesTest {
     }
 
     private static void promise16GoneToolIsRefused() {
-        Twins places = new Twins(CHECK, ToolsEdgesTest::eachPlace);
+        Twins places = new Twins(CHECK, Check::eachPlace);
         for (int tool = 0; tool < 4; tool++) {
             int one = tool;
             places.dueUnchanged("16: in place " + tool, 900, shed -> shed.dullBehind(one, 1));
@@ -354,7 +359,8 @@ public final class ToolsEdgesTest {
     }
 
     private static void promise17NoneAndTwenty() {
-        new Twins(CHECK, () -> withTools(1, 20)).dueNotFound("17: no cutter of twenty tools", shed -> shed.mean(CUTTER));
+        Twins plain = new Twins(CHECK, () -> withTools(1, 20));
+        plain.dueNotFound("17: no cutter of twenty tools", shed -> shed.mean(CUTTER));
         ToolShed all = withTools(1, 20);
         CHECK.due("17: twenty", 1000, all.mean(PLAIN));
         Check.wearOnce(all, 19);
@@ -365,11 +371,21 @@ public final class ToolsEdgesTest {
         CHECK.due("17: only the twentieth is left, which is a little below 0.9 in doubles", 899, all.mean(PLAIN));
         all.lendOut(19, 0, 1, 0);
         CHECK.due("17: none is left", Check.NOT_FOUND, all.mean(PLAIN));
-        Twins places = new Twins(CHECK, ToolsEdgesTest::eachPlace);
+        Twins places = new Twins(CHECK, Check::eachPlace);
         places.dueUnchanged("17: of five places", 1000, shed -> shed.mean(PLAIN));
-        ToolShed dull = eachPlace();
+        ToolShed dull = Check.eachPlace();
         Check.wearOnce(dull, 0);
         CHECK.due("17: only the one in the shed counts", 899, dull.mean(PLAIN));
+    }
+
+    private static void promise17InDoubles() {
+        ToolShed three = Check.shedOf(1);
+        for (int tool = 0; tool < 3; tool++) {
+            three.tool(PLAIN, 1, 7);
+            Check.wearOnce(three, tool);
+        }
+        CHECK.due("17: added up in floats, these would be 929", 930, three.mean(PLAIN));
+        CHECK.due("17: by 1000 / 19 these would be 999", 1000, withTools(1, 19).mean(PLAIN));
     }
 
     private static void promise18EachHook() {

@@ -39,7 +39,7 @@ final class Twins {
         dueUnchanged(what, Check.NOT_FOUND, call);
     }
 
-    /** A change: it answers this, it is recorded as one state, and undo() takes back all of it but the state dropped. */
+    /** A change: it answers this, is recorded as one state, and undo() takes back all of it but the state dropped. */
     void dueUndone(String what, long due, ToIntFunction<ToolShed> call) {
         for (int part = 0; part < Snapshot.HISTORY; part++) {
             ToolShed shed = made.get();

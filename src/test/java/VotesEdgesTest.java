@@ -30,23 +30,6 @@ public final class VotesEdgesTest {
         return shed;
     }
 
-    /** Five members; tool 0 is in the shed, 1 with member 0, 2 lost by 0, 3 at shed 0, 4 gone; none has a proposal. */
-    private static ToolShed eachPlace() {
-        ToolShed shed = Check.shedOf(5);
-        for (int tool = 0; tool < 5; tool++) {
-            shed.tool(PLAIN, 3, 10);
-        }
-        shed.borrow(1, 0);
-        shed.borrow(2, 0);
-        shed.borrow(4, 0);
-        shed.lose(4);
-        shed.say(4, 1, 1);
-        shed.say(4, 2, 1);
-        shed.lose(2);
-        shed.lendOut(3, 0, 60, 0);
-        return shed;
-    }
-
     private static void promise27NoMemberIsLeft() {
         Twins none = new Twins(CHECK, () -> {
             ToolShed shed = new ToolShed();
@@ -65,7 +48,7 @@ public final class VotesEdgesTest {
     }
 
     private static void promise27InEachPlace() {
-        Twins places = new Twins(CHECK, VotesEdgesTest::eachPlace);
+        Twins places = new Twins(CHECK, Check::eachPlace);
         for (int tool = 0; tool < 4; tool++) {
             int one = tool;
             places.dueUndone("27: place " + tool, 10, shed -> shed.propose(one, 400, 10));
@@ -228,27 +211,30 @@ public final class VotesEdgesTest {
 
     private static void promise28InEachPlace() {
         Twins places = new Twins(CHECK, () -> {
-            ToolShed shed = eachPlace();
+            ToolShed shed = Check.eachPlace();
             for (int tool = 0; tool < 4; tool++) {
-                shed.propose(tool, 10, 10);
-                shed.vote(tool, 0, 1);
-                shed.vote(tool, 1, 1);
+                proposeWithThreeOfSix(shed, tool);
             }
             return shed;
         });
         for (int tool = 0; tool < 4; tool++) {
             int one = tool;
-            places.dueUndone("28: place " + tool, 1, shed -> shed.vote(one, 2, 1));
+            places.dueUndone("28: place " + tool, 1, shed -> shed.vote(one, 5, 1));
         }
-        places.dueNotPossible("28: gone", shed -> shed.vote(4, 2, 1));
-        ToolShed gone = eachPlace();
-        gone.propose(2, 10, 10);
-        gone.vote(2, 0, 1);
-        gone.vote(2, 1, 1);
-        gone.say(2, gone.panelAt(2, 0, 0), 0);
-        gone.say(2, gone.panelAt(2, 1, 0), 0);
+        places.dueNotPossible("28: gone", shed -> shed.vote(4, 5, 1));
+        ToolShed gone = Check.eachPlace();
+        proposeWithThreeOfSix(gone, 2);
+        gone.say(2, 0, 0);
+        gone.say(2, 3, 0);
         CHECK.dueText("28: dropped when its tool is gone", "0 " + Check.NOT_POSSIBLE, gone.count(8) + " "
-                + gone.vote(2, 2, 1));
+                + gone.vote(2, 5, 1));
+    }
+
+    private static void proposeWithThreeOfSix(ToolShed shed, int tool) {
+        shed.propose(tool, 10, 10);
+        for (int voter = 0; voter < 3; voter++) {
+            shed.vote(tool, voter, 1);
+        }
     }
 
     private static void promise28WearBecomesLess() {
@@ -263,7 +249,7 @@ public final class VotesEdgesTest {
     }
 
     private static void promise29NotFound() {
-        Twins places = new Twins(CHECK, VotesEdgesTest::eachPlace);
+        Twins places = new Twins(CHECK, Check::eachPlace);
         for (int tool = 0; tool < 5; tool++) {
             for (int what = 0; what < 5; what++) {
                 int one = tool;
